@@ -29,6 +29,10 @@ public final class HoursByPost {
     private static final long[] SETS_WITH = {
         0xAAAAAAAAAAAAAAAAL, 0xCCCCCCCCCCCCCCCCL, 0xF0F0F0F0F0F0F0F0L,
         0xFF00FF00FF00FF00L, 0xFFFF0000FFFF0000L, 0xFFFFFFFF00000000L};
+    /** The sets of no DEEDS, of one, of two, .. (a bit each). */
+    private static final long[] SETS_OF = {
+        0x0000000000000001L, 0x0000000100010116L, 0x0001011601161668L, 0x0116166816686880L,
+        0x1668688068808000L, 0x6880800080000000L, 0x8000000000000000L};
 
     private static final long LOT_FACTOR = 48271L, LOT_MODULUS = 2147483647L;
     private static final int LAST_SEED = 2147483646, LOT_CUT = 64;
@@ -363,7 +367,6 @@ public final class HoursByPost {
             return NONE;
         }
         rows.begin(r, 2 * pairs, 0);
-        orders.start(course, course.shelfBits());
         orders.writeFirst(i, pairs, rows.cells[r]);
         return pairs;
     }
@@ -444,7 +447,7 @@ public final class HoursByPost {
         }
         int shelf = course.shelfBits();
         orders.explore(course, shelf);
-        long fitting = orders.setsEnoughFor(i, shelf);
+        long fitting = orders.setsEnoughFor(i);
         long all = 1L << Integer.bitCount(shelf);
         // All chances are over a power of two, so that halving brings the lowest terms.
         for (int k = 0; k < HOURS && fitting % 2 == 0 && all % 2 == 0; k++) {
@@ -778,6 +781,7 @@ public final class HoursByPost {
             hours = 0;
         }
 
+        /** Takes another one's DEEDS and HOURS, and works out what orders look up often. */
         void become(Plan other) {
             clear();
             for (int i = 0; i < other.deeds; i++) {
@@ -785,6 +789,10 @@ public final class HoursByPost {
             }
             for (int h = 0; h < other.hours; h++) {
                 addHour(other.times[h], other.sendingDays[h], other.routes[h]);
+            }
+            for (int i = 0; i < deeds; i++) {
+                readyBehind[i] = setsReadyFor(i);
+                suitedHours[i] = hoursSuiting(i);
             }
         }
 
@@ -801,27 +809,33 @@ public final class HoursByPost {
             for (int k = 0; k < i; k++) {
                 needsInTheEnd[i] |= isIn(needed, k) ? needsInTheEnd[k] : 0;
             }
-            suitedHours[i] = 0;
-            readyBehind[i] = 0;
-            for (int done = 0; done < DEED_SETS; done++) {
-                if (!isIn(done, i) && (needed & ~done) == 0 && hasCompany(i, done)) {
-                    readyBehind[i] |= 1L << done;
-                }
-            }
         }
 
         void addHour(int time, int sent, int route) {
             if (hours >= HOURS) {
                 return;
             }
-            int h = hours;
+            times[hours] = time;
+            sendingDays[hours] = sent;
+            routes[hours] = route;
             hours++;
-            times[h] = time;
-            sendingDays[h] = sent;
-            routes[h] = route;
-            for (int i = 0; i < deeds; i++) {
-                suitedHours[i] |= hasLight(i, h) && isTimeOf(i, h) ? 1 << h : 0;
+        }
+
+        private long setsReadyFor(int i) {
+            long sets = 0;
+            for (int done = 0; done < DEED_SETS; done++) {
+                boolean isReady = !isIn(done, i) && (needs[i] & ~done) == 0 && hasCompany(i, done);
+                sets |= isReady ? 1L << done : 0;
             }
+            return sets;
+        }
+
+        private int hoursSuiting(int i) {
+            int bits = 0;
+            for (int h = 0; h < hours; h++) {
+                bits |= hasLight(i, h) && isTimeOf(i, h) ? 1 << h : 0;
+            }
+            return bits;
         }
 
         boolean hasDeed(int i) {
@@ -1164,8 +1178,7 @@ public final class HoursByPost {
         private final Plan plan;
         private final long[] reached = new long[HOUR_SETS * GAPS];
         private final long[] winning = new long[HOUR_SETS * GAPS];
-        private final boolean[] enough = new boolean[HOUR_SETS];
-        /** One order that is followed: what it may open still, and where it is. */
+        /** One order that is followed: the HOURS that it may open, and where it is. */
         private int pool = 0;
         private int hoursOpened = 0;
         private int gap = 0;
@@ -1239,10 +1252,11 @@ public final class HoursByPost {
 
         /** These sets of DEEDS are reached by opening one more of these HOURS. */
         private void pass(long sets, int set, int g, int hours) {
-            for (int h = 0; h < plan.hours; h++) {
-                if (isIn(hours & ~set, h)) {
-                    reached[(set | 1 << h) * GAPS + g] |= sets;
-                }
+            int left = hours & ~set;
+            for (int k = 0; k < HOURS && left != 0; k++) {
+                int next = left & -left;
+                left -= next;
+                reached[(set | next) * GAPS + g] |= sets;
             }
         }
 
@@ -1260,13 +1274,11 @@ public final class HoursByPost {
         }
 
         private static int largestOf(long sets) {
-            int largest = NONE;
-            for (int deeds = 0; deeds < DEED_SETS && sets != 0; deeds++) {
-                if ((sets >>> deeds & 1) == 1) {
-                    largest = Math.max(largest, Integer.bitCount(deeds));
-                }
+            int size = DEEDS;
+            while (size > 0 && (sets & SETS_OF[size]) == 0) {
+                size--;
             }
-            return largest;
+            return size;
         }
 
         /** The most DEEDS that are DONE while these HOURS stay shut. */
@@ -1283,7 +1295,7 @@ public final class HoursByPost {
             int fewest = HOURS;
             for (int set = 0; set < HOUR_SETS; set++) {
                 int hours = Integer.bitCount(set);
-                if (hours < fewest && largestOf(doneBy(set)) == many) {
+                if (hours < fewest && (doneBy(set) & SETS_OF[many]) != 0) {
                     fewest = hours;
                 }
             }
@@ -1301,24 +1313,16 @@ public final class HoursByPost {
             return fewest;
         }
 
-        /** Of how many sets of HOURS of the SHELF some order does the DEED. */
-        int setsEnoughFor(int i, int shelf) {
+        /** Of how many sets of HOURS some order does the DEED; what is left over is opened for none. */
+        int setsEnoughFor(int i) {
             int many = 0;
             for (int set = 0; set < HOUR_SETS; set++) {
-                if ((set & ~shelf) != 0) {
-                    continue;
-                }
-                // What fewer HOURS can do, more can do too.
-                enough[set] = does(i, set);
-                for (int h = 0; h < plan.hours && !enough[set]; h++) {
-                    enough[set] = isIn(set, h) && enough[set & ~(1 << h)];
-                }
-                many += enough[set] ? 1 : 0;
+                many += does(i, set) ? 1 : 0;
             }
             return many;
         }
 
-        /** Writes the first order of so many pairs at whose end the DEED is DONE. */
+        /** Writes the first order of so many pairs at whose end the DEED is DONE, behind explore(). */
         void writeFirst(int i, int many, int[] pairs) {
             findWinning(i, many);
             for (int p = 0; p < many && 2 * p + 1 < pairs.length; p++) {
@@ -1345,15 +1349,16 @@ public final class HoursByPost {
             return (winning[to] >>> (done | deedBit(deed)) & 1) == 1;
         }
 
-        /** Marks all states from which an order of so many pairs can still end with the DEED DONE. */
+        /** Marks the reached states from which an order of so many pairs can end with the DEED DONE. */
         private void findWinning(int i, int many) {
             for (int set = HOUR_SETS - 1; set >= 0; set--) {
                 int hours = Integer.bitCount(set);
                 for (int g = 0; g < GAPS; g++) {
-                    if (hours >= many) {
-                        winning[set * GAPS + g] = hours == many ? SETS_WITH[i] : 0;
+                    int state = set * GAPS + g;
+                    if (hours > many || reached[state] == 0) {
+                        winning[state] = 0;
                     } else {
-                        winning[set * GAPS + g] = winningAhead(set, g);
+                        winning[state] = hours == many ? SETS_WITH[i] : winningAhead(set, g);
                     }
                 }
             }
@@ -1373,10 +1378,11 @@ public final class HoursByPost {
         /** The winning sets of DEEDS behind opening one more of these HOURS. */
         private long winningBy(int set, int g, int hours) {
             long sets = 0;
-            for (int h = 0; h < plan.hours; h++) {
-                if (isIn(hours & ~set, h)) {
-                    sets |= winning[(set | 1 << h) * GAPS + g];
-                }
+            int left = hours & ~set;
+            for (int k = 0; k < HOURS && left != 0; k++) {
+                int next = left & -left;
+                left -= next;
+                sets |= winning[(set | next) * GAPS + g];
             }
             return sets;
         }

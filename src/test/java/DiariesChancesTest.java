@@ -103,6 +103,10 @@ public final class DiariesChancesTest {
         x.open(1, 0);
         chances(x, 0, 1, 1);
         chances(x, 1, 3, 4);
+        HoursByPost y = Due.house("se0 sd0 hA00 hB00 hC00 hM00 hN00 hO00 hP00");
+        y.day();
+        chances(y, 0, 7, 8);
+        chances(y, 1, 0, 1);
         due.is("odds(4)", x.odds(4), -1);
         due.is("odds(-1)", x.odds(-1), -1);
         due.is("upper() behind BAD", x.upper(), 3);

@@ -61,6 +61,13 @@ public final class HousesTest {
         due.is("fault of 80 bytes", x.fault(0), -9);
         x.put(0, 79, -1);
         due.is("fault at the last of 80 bytes", x.fault(0), 79);
+        for (String end : new String[] {"d", "de", "de1", "de0h", "de0hA", "de0hA0"}) {
+            x.text(0, 80);
+            for (int k = 0; k < end.length(); k++) {
+                x.put(0, 80 - end.length() + k, end.charAt(k));
+            }
+            due.is("fault behind 80 bytes that end with " + end, x.fault(0), 80);
+        }
     }
 
     private static void faultOf(HoursByPost x, String text, int want) {
@@ -186,6 +193,8 @@ public final class HousesTest {
         due.is("mark(-1, 1)", x.mark(-1, 1), -1);
         due.is("mark(0, 0)", x.mark(0, 0), -1);
         due.is("mark(0, 6)", x.mark(0, 6), -1);
+        HoursByPost y = Due.house("pn0 hA00 hM00 hT92");
+        due.is("NAP by night", y.mark(0, 5), 2);
         int[][] unlike = {{0, 1}, {0, 2}, {0, 4}, {0, 5}, {1, 4}, {1, 2}, {1, 3}, {2, 5}, {2, 1}, {3, 2}, {4, 1}, {4, 4}};
         for (int k = 0; k < unlike.length; k++) {
             int i = unlike[k][0];

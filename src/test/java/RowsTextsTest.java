@@ -127,6 +127,9 @@ public final class RowsTextsTest {
         due.tells(x, "mean of -3, 0", x.mean(0), 1, -1);
         Due.fill(x, 0, Integer.MAX_VALUE, Integer.MAX_VALUE, Integer.MAX_VALUE);
         due.tells(x, "mean of the largest", x.mean(0), 1, Integer.MAX_VALUE);
+        x.row(0, 40);
+        x.lay(0, 39, 81);
+        due.tells(x, "mean of 40", x.mean(0), 1, 2);
         Due.fill(x, 0, Integer.MIN_VALUE, Integer.MIN_VALUE);
         due.tells(x, "mean of the least", x.mean(0), 1, Integer.MIN_VALUE);
     }

@@ -90,6 +90,8 @@ public final class ToldTest {
         for (int what = 0; what < want.length; what++) {
             due.is("count(" + what + ")", x.count(what), want[what]);
         }
+        HoursByPost y = Due.house("me0 fe10 me0 de0");
+        due.is("count(5), whatever is DONE", y.count(5), 3);
         due.is("count(9)", x.count(9), -1);
         due.is("count(-1)", x.count(-1), -1);
     }
@@ -150,6 +152,34 @@ public final class ToldTest {
             h = 31 * h + v;
         }
         due.is("digest()", x.digest(), h);
+        x.row(5, 40);
+        x.text(3, 80);
+        x.put(3, 79, -128);
+        int[] more = {
+            2, 2, 2, 1, 1, 1, 2, 3, 1,
+            1,
+            1, 7, 4,
+            3, 2, 0, 1, 0,
+            4, 1, 1, 0, 1,
+            0, 1, 1, 2, 0,
+            12, 0, 5, 0, -9,
+            -1, -1, 2,
+            -1, 2, -5, 6, -1, -1, -1, 40};
+        h = 17;
+        for (int v : more) {
+            h = 31 * h + v;
+        }
+        for (int k = 0; k < 40; k++) {
+            h = 31 * h;
+        }
+        for (int k = values.length - 22; k < values.length - 1; k++) {
+            h = 31 * h + values[k];
+        }
+        h = 31 * h + 80;
+        for (int k = 0; k < 80; k++) {
+            h = 31 * h + (k == 79 ? -128 : 32);
+        }
+        due.is("digest() with a ROW and a TEXT as long as can be", x.digest(), h);
         due.is("asked() behind digest()", x.asked(), told);
     }
 }
