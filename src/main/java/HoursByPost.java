@@ -178,7 +178,7 @@ public final class HoursByPost {
             case SLEEP:
                 return hoursFor(i);
             case LETTER:
-                return Integer.bitCount(plan.neededBy(i));
+                return Integer.bitCount(plan.neededBy(i, plan.needs));
             case FEAST:
                 return plan.company(i, course.done);
             default:
@@ -296,7 +296,7 @@ public final class HoursByPost {
         if (!plan.hasDeed(i)) {
             return BAD;
         }
-        told = plan.neededInTheEndBy(i);
+        told = plan.neededBy(i, plan.needsInTheEnd);
         return Integer.bitCount(told);
     }
 
@@ -317,14 +317,9 @@ public final class HoursByPost {
     // ---- 4 orders (aside)
 
     public int run(int r) {
-        if (!rows.knows(r)) {
-            return BAD;
-        }
-        if (plan.deeds == 0) {
-            return STATE;
-        }
-        if (!rows.isThere(r)) {
-            return find(NOTHING);
+        int refusal = refusalInHouse(r);
+        if (refusal != 0) {
+            return refusal;
         }
         int size = rows.sizes[r];
         if (size % 2 != 0 || size > 2 * HOURS) {
@@ -542,6 +537,14 @@ public final class HoursByPost {
         return those.isThere(r) ? 0 : find(NOTHING);
     }
 
+    /** BAD, STATE or NOTHING, or 0, if there is such a ROW, and a HOUSE in which it is read. */
+    private int refusalInHouse(int r) {
+        if (rows.knows(r) && plan.deeds == 0) {
+            return STATE;
+        }
+        return refusalOf(rows, r);
+    }
+
     /** BAD, NOTHING or BEYOND, or 0, if there is such a place. */
     private int refusalOfPlace(Rows those, int r, int i) {
         int refusal = refusalOf(those, r);
@@ -624,14 +627,9 @@ public final class HoursByPost {
     }
 
     private int diaryRefusal(int r) {
-        if (!rows.knows(r)) {
-            return BAD;
-        }
-        if (plan.deeds == 0) {
-            return STATE;
-        }
-        if (!rows.isThere(r)) {
-            return find(NOTHING);
+        int refusal = refusalInHouse(r);
+        if (refusal != 0) {
+            return refusal;
         }
         if (rows.sizes[r] > HOURS) {
             return find(SIZE);
@@ -890,18 +888,11 @@ public final class HoursByPost {
             return fits ? 0 : LACKS_KIND;
         }
 
-        int neededBy(int i) {
+        /** The DEEDS (bits) among whose needs, told for each, a DEED is. */
+        int neededBy(int i, int[] needsOfEach) {
             int by = 0;
-            for (int k = 0; k < deeds; k++) {
-                by |= isIn(needs[k], i) ? 1 << k : 0;
-            }
-            return by;
-        }
-
-        int neededInTheEndBy(int i) {
-            int by = 0;
-            for (int k = 0; k < deeds; k++) {
-                by |= isIn(needsInTheEnd[k], i) ? 1 << k : 0;
+            for (int k = 0; k < deeds && k < needsOfEach.length; k++) {
+                by |= isIn(needsOfEach[k], i) ? 1 << k : 0;
             }
             return by;
         }

@@ -195,7 +195,8 @@ public final class HousesTest {
         due.is("mark(0, 6)", x.mark(0, 6), -1);
         HoursByPost y = Due.house("pn0 hA00 hM00 hT92");
         due.is("NAP by night", y.mark(0, 5), 2);
-        int[][] unlike = {{0, 1}, {0, 2}, {0, 4}, {0, 5}, {1, 4}, {1, 2}, {1, 3}, {2, 5}, {2, 1}, {3, 2}, {4, 1}, {4, 4}};
+        int[][] unlike = {
+            {0, 1}, {0, 2}, {0, 4}, {0, 5}, {1, 4}, {1, 2}, {1, 3}, {2, 5}, {2, 1}, {3, 2}, {4, 1}, {4, 4}};
         for (int k = 0; k < unlike.length; k++) {
             int i = unlike[k][0];
             int kind = unlike[k][1];

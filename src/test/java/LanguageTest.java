@@ -98,7 +98,9 @@ public final class LanguageTest {
             if (isPublic) {
                 open.add(name);
             }
-            if (isPublic != face.contains(name) || m.group(1).length() == 4 && !isPublic && !m.group(2).contains("private")) {
+            boolean isOfTheClass = m.group(1).length() == 4;
+            boolean isKeptIn = isPublic || !isOfTheClass || m.group(2).contains("private");
+            if (isPublic != face.contains(name) || !isKeptIn) {
                 complain("rule 1: " + lines.get(k).trim());
             }
             if (m.group(5).split(",").length > MOST_PARAMETERS) {
