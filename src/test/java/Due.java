@@ -1,3 +1,5 @@
+import java.util.List;
+
 /** Counts and prints the calls whose answer is not the one that is due. */
 final class Due {
     private int wrong = 0;
@@ -22,6 +24,20 @@ final class Due {
         is(call, got, HoursByPost.FINDING);
         is(call + "; finding()", x.finding(), finding);
         is(call + "; findings(" + finding + ")", x.findings(finding), before + 1);
+    }
+
+    /** Two objects tell the same. */
+    void same(String what, List<String> got, List<String> want) {
+        asked++;
+        for (int k = 0; k < Math.max(got.size(), want.size()); k++) {
+            String one = k < got.size() ? got.get(k) : "nothing";
+            String other = k < want.size() ? want.get(k) : "nothing";
+            if (!one.equals(other)) {
+                wrong++;
+                System.out.println(what + ": " + one + ", due is " + other);
+                return;
+            }
+        }
     }
 
     void end() {
