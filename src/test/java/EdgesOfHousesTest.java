@@ -294,8 +294,12 @@ public final class EdgesOfHousesTest {
             due.tells(x, "hour(" + h + ", 3)", x.hour(h, 3), 1, 0);
             due.tells(x, "hour(" + h + ", 4)", x.hour(h, 4), 1, NONE);
         }
+        x.day();
+        x.open(0, -9);
+        due.is("HOURS since a MEAL", x.mark(1, 1), 1);
         Due.write(x, 3, "fe0");
         due.is("house(3), fewer DEEDS", x.house(3), 1);
+        due.is("HOURS since a MEAL anew", x.mark(0, 1), 0);
         due.is("deed(1, 0)", x.deed(1, 0), -1);
         due.is("hour(0, 0)", x.hour(0, 0), -1);
     }
@@ -441,6 +445,7 @@ public final class EdgesOfHousesTest {
         }
         due.is("MEAL behind 7 HOURS in all", x.mark(0, 1), 7);
         x.undo(3);
+        due.is("MEAL behind 2 HOURS, others undone", x.mark(0, 1), 2);
         x.open(2, 0);
         due.is("MEAL just DONE", x.mark(0, 1), 0);
         x.day();
@@ -470,6 +475,13 @@ public final class EdgesOfHousesTest {
         x.open(2, -9);
         x.send(4);
         due.is("SLEEP in HOURS left", x.mark(2, 2), 1);
+        HoursByPost all = Due.house("se0 hA00 hB00 hC00 hD00 hE00 hF00 hU00");
+        all.day();
+        due.is("SLEEP in all 7 HOURS", all.mark(0, 2), 7);
+        all.send(6);
+        due.is("SLEEP in 6 HOURS", all.mark(0, 2), 6);
+        all.open(0, -9);
+        due.is("SLEEP in 5 HOURS", all.mark(0, 2), 5);
     }
 
     private static void markOfLetters() {

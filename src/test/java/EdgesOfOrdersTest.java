@@ -111,6 +111,12 @@ public final class EdgesOfOrdersTest {
         due.tells(x, "an HOUR that is OPENED in it", x.run(0), 1, 32);
         Due.fill(x, 0, 5, NONE, 5, NONE);
         due.tells(x, "an HOUR that is OPENED in it for none", x.run(0), 1, 0);
+        Due.fill(x, 0, 0, NONE, 1, NONE, 1, NONE);
+        due.tells(x, "the HOUR OPENED last once more", x.run(0), 2, 0);
+        Due.fill(x, 0, 1, NONE);
+        due.tells(x, "no pairs behind the ROW's end", x.run(0), 1, 0);
+        x.row(0, 0);
+        due.tells(x, "no pairs", x.run(0), 0, 0);
         Due.fill(x, 0, 5, 5, 4, 5, 3, 3);
         due.tells(x, "a DEED that is DONE in it", x.run(0), 1, 32);
         HoursByPost y = onDayOne("de0 de10 fe0 sn0 hA00 hB00 hM00 hC00");
@@ -267,6 +273,12 @@ public final class EdgesOfOrdersTest {
         HoursByPost z = onDayOne("de0 de0 fe0 hA00 hB00 hC00");
         due.is("order(2, 0)", z.order(2, 0), 3);
         rowIs(z, "DEED 0 ahead of DEED 1", 0, 0, 0, 1, 1, 2, 2);
+        HoursByPost meal = onDayOne("me0 le0 hA00 hB00 hC00");
+        due.is("order(0, 0)", meal.order(0, 0), 3);
+        rowIs(meal, "none ahead of any DEED", 0, 0, NONE, 1, NONE, 2, 0);
+        HoursByPost noon = onDayOne("de0 de10 dd11 hM00 hA00 hB00");
+        due.is("order(2, 0)", noon.order(2, 0), 3);
+        rowIs(noon, "the first HOUR is kept for the last DEED", 0, 1, 0, 2, 1, 0, 2);
     }
 
     private static void orderComesAnew() {
@@ -321,6 +333,10 @@ public final class EdgesOfOrdersTest {
         due.is("all DONE", x.shut(), 4);
         x.open(2, NONE);
         due.is("no HOURS left", x.shut(), 0);
+        HoursByPost y = onDayOne("dd0 hM00 hA00");
+        due.is("the first HOUR is needed", y.shut(), 2);
+        HoursByPost z = onDayOne("dd0 hA00 hB00 hC00 hD00 hE00 hF00 hG00");
+        due.is("the last HOUR is needed", z.shut(), 63);
     }
 
     // Promise 32: "The first DAY (from today on, 20 at most) on which .. a DEED is DONE, or can be by an ORDER. NONE"

@@ -385,19 +385,24 @@ public final class EdgesOfStepsTest {
         HoursByPost twin = Due.house("le0 me0 hA00 hB00 hC00 hD00");
         x.route(2, 7);
         twin.route(2, 7);
-        live(x, 4);
-        live(twin, 4);
-        due.is("keep(1)", x.keep(1), 4);
+        live(x, 5);
+        live(twin, 5);
+        due.is("keep(1)", x.keep(1), 5);
         twin.keep(1);
         x.undo(0);
         x.route(0, 0);
         x.route(2, 0);
         x.send(0);
-        x.open(1, 0);
-        due.is("on(1)", x.on(1), 4);
+        x.open(1, -9);
+        x.open(3, 0);
+        x.open(2, 1);
+        x.undo(3);
+        x.day();
+        x.day();
+        due.is("on(1)", x.on(1), 5);
         due.is("digest() as it was", x.digest(), twin.digest());
         due.is("HOURS since the MEAL", x.mark(1, 1), 0);
-        for (int n = 3; n >= 0; n--) {
+        for (int n = 4; n >= 0; n--) {
             due.is("undo(" + n + ")", x.undo(n), 1);
             twin.undo(n);
             due.is("digest() at STEP " + n, x.digest(), twin.digest());

@@ -30,6 +30,7 @@ public final class EdgesOfTheRestTest {
         lotsOfTheFirstAndTheLastSeed();
         lotsFromOneToTwenty();
         lotsTillFortySteps();
+        lotsThatFallOnNone();
         lotsCountJustTheirDeeds();
         askedBeforeAndBehindRefusals();
         askedOfEachCall();
@@ -357,6 +358,23 @@ public final class EdgesOfTheRestTest {
         y.undo(19);
         y.lots(20, 1);
         due.is("lots(20, 1) from 19 STEPS on", y.count(2), 39);
+    }
+
+    private static void lotsThatFallOnNone() {
+        HoursByPost x = Due.house("le0 hA00");
+        x.route(0, 0);
+        // 5 * 48271 = 241355; by 64, cut, 3771: 1 of 2, none.
+        due.is("lots(1, 5)", x.lots(1, 5), 0);
+        due.tells(x, "hour(0, 3)", x.hour(0, 3), 1, 2);
+        deedsIn(x, "lots(1, 5)", NONE);
+        x.undo(0);
+        // 48271; by 64, cut, 754: 0 of 2, DEED 0.
+        due.is("lots(1, 1)", x.lots(1, 1), 1);
+        deedsIn(x, "lots(1, 1)", 0);
+        HoursByPost y = Due.house("dd0 hA00");
+        y.route(0, 0);
+        due.is("lots(1, 1), no DEED CAN BE", y.lots(1, 1), 0);
+        due.tells(y, "hour(0, 3)", y.hour(0, 3), 1, 2);
     }
 
     private static void lotsCountJustTheirDeeds() {
