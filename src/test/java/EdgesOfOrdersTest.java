@@ -261,6 +261,14 @@ public final class EdgesOfOrdersTest {
         due.is("order(3, 5)", x.order(3, 5), 7);
         rowIs(x, "order(3, 5)", 5, 0, NONE, 1, 0, 2, 1, 3, NONE, 4, NONE, 5, 2, 6, 3);
         due.tells(x, "run(5)", x.run(5), 7, 15);
+        HoursByPost chain = onDayOne("de0 de10 de11 de12 de13 de14" + SEVEN);
+        for (int i = 0; i < 6; i++) {
+            due.is("fewest(" + i + ") of a chain", chain.fewest(i), i + 1);
+            due.is("order(" + i + ", 0) of a chain", chain.order(i, 0), i + 1);
+            due.tells(chain, "run(0) of a chain", chain.run(0), i + 1, (2 << i) - 1);
+            due.tells(chain, "the last HOUR", chain.at(0, 2 * i), 1, i);
+            due.tells(chain, "the last DEED", chain.at(0, 2 * i + 1), 1, i);
+        }
     }
 
     private static void orderIsTheFirst() {
@@ -276,6 +284,9 @@ public final class EdgesOfOrdersTest {
         HoursByPost meal = onDayOne("me0 le0 hA00 hB00 hC00");
         due.is("order(0, 0)", meal.order(0, 0), 3);
         rowIs(meal, "none ahead of any DEED", 0, 0, NONE, 1, NONE, 2, 0);
+        HoursByPost alone = onDayOne("me0 hA00 hB00 hC00");
+        due.is("order(0, 0)", alone.order(0, 0), 3);
+        rowIs(alone, "a MEAL alone", 0, 0, NONE, 1, NONE, 2, 0);
         HoursByPost noon = onDayOne("de0 de10 dd11 hM00 hA00 hB00");
         due.is("order(2, 0)", noon.order(2, 0), 3);
         rowIs(noon, "the first HOUR is kept for the last DEED", 0, 1, 0, 2, 1, 0, 2);
