@@ -4,13 +4,15 @@ import java.util.Random;
 
 /** Long runs of calls by lots: each answer is the one of the Model. */
 public final class ModelTest {
-    private static final int RUNS = 400, CALLS = 500, FAULT_TEXTS = 6000;
+    private static final int RUNS = 1000, CALLS = 512, MOST_IN_A_ROUND = 120, FAULT_TEXTS = 6000;
     private static int wrong = 0;
 
     private final Random lots;
     private final HoursByPost x = new HoursByPost();
     private final Model model = new Model();
     private final List<String> calls = new ArrayList<>();
+    /** Calls of the object so far: nothing is promised behind 512. */
+    private int used = 0;
 
     private ModelTest(long seed) {
         lots = new Random(seed);
@@ -30,6 +32,7 @@ public final class ModelTest {
     }
 
     private void due(String call, long got, long want) {
+        used++;
         calls.add(call + " = " + got);
         if (got != want) {
             wrong++;
@@ -50,7 +53,7 @@ public final class ModelTest {
         if (lots.nextInt(8) != 0) {
             build();
         }
-        while (calls.size() < CALLS && wrong == 0) {
+        while (used < CALLS - MOST_IN_A_ROUND && wrong == 0) {
             if (lots.nextInt(150) == 0) {
                 build();
             }
@@ -151,6 +154,7 @@ public final class ModelTest {
 
     private void write(int t, String text) {
         calls.add("text " + t + ": '" + text + "'");
+        used += 1 + text.length();
         x.text(t, text.length());
         model.text(t, text.length());
         for (int i = 0; i < text.length(); i++) {
@@ -173,6 +177,7 @@ public final class ModelTest {
 
     private void fillRow(int r, int size, boolean ofPairs) {
         calls.add("row " + r);
+        used += 2;
         x.row(r, size);
         model.row(r, size);
         for (int i = 0; i < size; i++) {
