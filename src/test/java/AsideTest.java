@@ -1,6 +1,9 @@
 import java.util.function.ToLongFunction;
 
-/** Calls that only tell something leave all else as it is: some change nothing, some asked(), one the chances. */
+/**
+ * Calls that only tell something leave all else as it is: some change nothing, some asked(), one the chances.
+ * Calls that change something leave the rest as it is: behind what takes the change back, all is as it was.
+ */
 public final class AsideTest {
     private static final Due due = new Due();
 
@@ -9,7 +12,10 @@ public final class AsideTest {
             tellsNothing(scene);
             tellsByAsked(scene);
             tellsByChances(scene);
+            papersTakenBack(scene);
+            housesTakenBack(scene);
         }
+        stepsTakenBack();
         due.end();
     }
 
@@ -85,5 +91,63 @@ public final class AsideTest {
     private static void tellsByChances(Scene scene) {
         leaves(scene, "odds(0)", x -> x.odds(0), x -> x.odds(1));
         leaves(scene, "odds(1)", x -> x.odds(1), x -> x.odds(0));
+    }
+
+    private static void papersTakenBack(Scene scene) {
+        ToLongFunction<HoursByPost> alike = x -> x.at(2, 0);
+        leaves(scene, "row(4, 40), tear(4)", x -> x.row(4, 40) + x.tear(4), alike);
+        leaves(scene, "tear(0), row(0, 0)", x -> x.tear(0) + x.row(0, 0), alike);
+        leaves(scene, "lay(2, 2, 8), lay(2, 2, -5)", x -> x.lay(2, 2, 8) + x.lay(2, 2, -5), alike);
+        leaves(scene, "copies there and back", x -> x.copy(2, 0, 3, 7, 3) + x.copy(3, 0, 3, 7, 3), alike);
+        leaves(scene, "text(1, 5), written anew", x -> {
+            Due.write(x, 1, "le0 x");
+            return x.count(7);
+        }, alike);
+        leaves(scene, "put(0, 0, 'z'), put(0, 0, 'l')", x -> x.put(0, 0, 'z') + x.put(0, 0, 'l'), alike);
+        leaves(scene, "order(..) to a ROW, tear(4)", x -> {
+            x.order(0, 4);
+            return scene == Scene.EMPTY ? x.count(6) : x.tear(4);
+        }, alike);
+    }
+
+    private static void housesTakenBack(Scene scene) {
+        ToLongFunction<HoursByPost> nothing = x -> 0;
+        if (scene == Scene.EMPTY) {
+            leaves(scene, "route(1, 0), route(1, 7)", x -> x.route(1, 0) + x.route(1, 7), nothing);
+            leaves(scene, "day(), undo(0)", x -> x.day() + x.undo(0), nothing);
+            leaves(scene, "lots(20, 9), undo(0)", x -> x.lots(20, 9) + x.undo(0), nothing);
+        } else {
+            leaves(scene, "on(0), STEPS again", x -> {
+                x.on(0);
+                x.send(1);
+                x.open(2, -9);
+                for (int k = 0; k < (scene == Scene.FULL ? 36 : 1); k++) {
+                    x.day();
+                }
+                return x.count(2);
+            }, nothing);
+            leaves(scene, "keep(0) of what is kept there", x -> {
+                int steps = x.count(2);
+                x.undo(2);
+                x.keep(0);
+                x.send(1);
+                x.open(2, -9);
+                while (x.count(2) < steps) {
+                    x.day();
+                }
+                return x.count(8);
+            }, nothing);
+        }
+    }
+
+    private static void stepsTakenBack() {
+        ToLongFunction<HoursByPost> nothing = x -> 0;
+        leaves(Scene.LIVED, "day(), undo(5)", x -> x.day() + x.undo(5), nothing);
+        leaves(Scene.LIVED, "open(3, 1), undo(5)", x -> x.open(3, 1) + x.undo(5), nothing);
+        leaves(Scene.LIVED, "open(3, NONE), undo(5)", x -> x.open(3, -9) + x.undo(5), nothing);
+        leaves(Scene.LIVED, "send(3), undo(5)", x -> x.send(3) + x.undo(5), nothing);
+        leaves(Scene.LIVED, "lots(20, 9), undo(5)", x -> x.lots(20, 9) + x.undo(5), nothing);
+        leaves(Scene.FULL, "undo(39), day()", x -> x.undo(39) + x.day(), nothing);
+        leaves(Scene.FULL, "lots(20, 9) at 40 STEPS", x -> x.lots(20, 9), nothing);
     }
 }

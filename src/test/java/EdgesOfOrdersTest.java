@@ -10,6 +10,7 @@ public final class EdgesOfOrdersTest {
         runOfNumbersThatAreNone();
         runLooksAtAllPairsFirst();
         runAsFarAsItCan();
+        runWithoutHours();
         runGoesOnFromTheHouse();
         ordersAreAside();
         ordersAtFortySteps();
@@ -128,6 +129,16 @@ public final class EdgesOfOrdersTest {
         due.tells(y, "a FEAST with 1", y.run(0), 2, 1);
         Due.fill(y, 0, 0, 0, 2, 3);
         due.tells(y, "of another LIGHT", y.run(0), 1, 1);
+    }
+
+    private static void runWithoutHours() {
+        HoursByPost x = Due.house("de0");
+        x.row(0, 0);
+        due.tells(x, "run of no pairs without HOURS", x.run(0), 0, 0);
+        Due.fill(x, 0, 0, NONE);
+        due.finds(x, "run of a pair without HOURS", 0, x.run(0), UNLIKE);
+        x.row(0, 1);
+        due.finds(x, "run of half a pair without HOURS", 0, x.run(0), SIZE);
     }
 
     private static void runGoesOnFromTheHouse() {
@@ -290,6 +301,12 @@ public final class EdgesOfOrdersTest {
         HoursByPost noon = onDayOne("de0 de10 dd11 hM00 hA00 hB00");
         due.is("order(2, 0)", noon.order(2, 0), 3);
         rowIs(noon, "the first HOUR is kept for the last DEED", 0, 1, 0, 2, 1, 0, 2);
+        HoursByPost between = onDayOne("de0 de10 dd11 hA00 hM00 hB00");
+        due.is("order(2, 0)", between.order(2, 0), 3);
+        rowIs(between, "the second HOUR is kept for the last DEED", 0, 0, 0, 2, 1, 1, 2);
+        HoursByPost end = onDayOne("de0 de10 dd11 hA00 hB00 hM00");
+        due.is("order(2, 0)", end.order(2, 0), 3);
+        rowIs(end, "the last HOUR is kept for the last DEED", 0, 0, 0, 1, 1, 2, 2);
     }
 
     private static void orderComesAnew() {

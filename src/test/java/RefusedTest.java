@@ -9,7 +9,7 @@ public final class RefusedTest {
     private static final int BAD = -1, FULL = -2, FINDING = -3, STATE = -4;
     private static final int NOTHING = 1, BEYOND = 2, UNLIKE = 3, NOUGHT = 4, SIZE = 5;
     private static final int LEAST = Integer.MIN_VALUE, GREATEST = Integer.MAX_VALUE;
-    private static final Scene[] ALL = Scene.values();
+    private static final Scene[] ALL = {Scene.NEW, Scene.PAPERS, Scene.EMPTY, Scene.LIVED, Scene.FULL};
     private static final Scene[] HOUSELESS = {Scene.NEW, Scene.PAPERS};
     private static final Scene[] WITH_PAPERS = {Scene.PAPERS, Scene.EMPTY, Scene.LIVED, Scene.FULL};
     private static final Scene[] HOUSES = {Scene.EMPTY, Scene.LIVED, Scene.FULL};
@@ -31,6 +31,7 @@ public final class RefusedTest {
         day();
         open();
         openAtForty();
+        openForWhatCannotBe();
         send();
         undo();
         shelfKeepOn();
@@ -259,6 +260,24 @@ public final class RefusedTest {
         refused(AT_40, "open(1, -9), STATE ahead of FULL: SENT BACK", x -> x.open(1, -9), STATE);
         badOutside(AT_40, "open(.., -9), BAD ahead of FULL", 4, h -> x -> x.open(h, -9));
         badOutside(AT_40, "open(3, ..), BAD ahead of FULL", 2, deed -> x -> x.open(3, deed));
+    }
+
+    /** Each reason for which a DEED CAN'T BE in an HOUR of the SHELF: also at 40 STEPS, for FULL is last. */
+    private static void openForWhatCannotBe() {
+        Scene[] wanting = {Scene.WANTING, Scene.WANTING_AT_40};
+        Scene[] early = {Scene.EARLY, Scene.EARLY_AT_40};
+        refused(wanting, "open(0, 0), DONE", x -> x.open(0, 0), STATE);
+        refused(wanting, "open(0, 2), what it NEEDS is not DONE", x -> x.open(0, 2), STATE);
+        refused(wanting, "open(1, 3), not its LIGHT", x -> x.open(1, 3), STATE);
+        refused(wanting, "open(0, 4), a SLEEP at 12", x -> x.open(0, 4), STATE);
+        refused(wanting, "open(0, 5), a FEAST with 1 DEED", x -> x.open(0, 5), STATE);
+        refused(early, "open(0, 1), a MEAL behind 1 HOUR", x -> x.open(0, 1), STATE);
+        for (int deed : new int[] {-9, 1, 3}) {
+            refused(new Scene[] {Scene.WANTING_AT_40}, "open(0, " + deed + ")", x -> x.open(0, deed), FULL);
+        }
+        refused(new Scene[] {Scene.EARLY_AT_40}, "open(1, NONE)", x -> x.open(1, -9), FULL);
+        due.is("WANTING: open(0, 3), its LIGHT", Scene.WANTING.make().open(0, 3), 1 + 8);
+        due.is("WANTING: open(1, 4), a SLEEP at 0", Scene.WANTING.make().open(1, 4), 1 + 16);
     }
 
     private static void send() {

@@ -11,9 +11,18 @@ enum Scene {
     /** A HOUSE with STEPS: HOURS 0, 2 OPENED, 1 SENT BACK, 3 on the SHELF, 4 on its way. */
     LIVED,
     /** The same one at 40 STEPS. */
-    FULL;
+    FULL,
+    /** HOURS 0 (at 12) and 1 (at 0) on the SHELF, two OPENED, DEED 0 DONE alone: others want something. */
+    WANTING,
+    /** The same one at 40 STEPS. */
+    WANTING_AT_40,
+    /** HOURS 0 and 1 on the SHELF, one OPENED: too early for a MEAL. */
+    EARLY,
+    /** The same one at 40 STEPS. */
+    EARLY_AT_40;
 
     private static final String HOUSE = "le0 me10 se0 hA00 hM00 hH00 hC00 hN92";
+    private static final String WANTS = "le0 de0 de11 dd0 se0 fe0 hM00 hA00 hB00 hC00";
 
     HoursByPost make() {
         HoursByPost x = new HoursByPost();
@@ -21,6 +30,12 @@ enum Scene {
             return x;
         }
         papers(x);
+        if (this == WANTING || this == WANTING_AT_40) {
+            want(x);
+        }
+        if (this == EARLY || this == EARLY_AT_40) {
+            beEarly(x);
+        }
         if (this == EMPTY) {
             Due.write(x, 3, "me0 le0");
             x.house(3);
@@ -29,8 +44,8 @@ enum Scene {
         if (this == LIVED || this == FULL) {
             live(x);
         }
-        if (this == FULL) {
-            for (int k = 0; k < 35; k++) {
+        if (this == FULL || this == WANTING_AT_40 || this == EARLY_AT_40) {
+            for (int k = x.count(2); k < 40; k++) {
                 x.day();
             }
         }
@@ -67,6 +82,23 @@ enum Scene {
         x.mark(0, 1);
         x.day();
         x.deed(2, 0);
+    }
+
+    private static void want(HoursByPost x) {
+        Due.write(x, 2, WANTS);
+        x.house(2);
+        x.day();
+        x.open(2, 0);
+        x.open(3, -9);
+        x.keep(1);
+    }
+
+    private static void beEarly(HoursByPost x) {
+        Due.write(x, 2, "le0 me0 hM00 hA00 hB00");
+        x.house(2);
+        x.day();
+        x.open(2, 0);
+        x.keep(1);
     }
 
     /** A call is refused, and nothing but finding() and findings() has changed; finding 0: no FINDING. */
