@@ -84,18 +84,18 @@ public final class FaceTest {
             if (!Modifier.isPrivate(field.getModifiers())) {
                 boolean isConstant = Modifier.isStatic(field.getModifiers()) && Modifier.isFinal(field.getModifiers())
                     && Modifier.isPublic(field.getModifiers()) && field.getType() == int.class;
-                has.add(isConstant ? field.getName() + " = " + field.getInt(null) : field.toString());
+                has.add(isConstant ? field.getName() + " = " + field.getInt(null) : "not as due: " + field);
             }
         }
         for (Constructor<?> made : TYPE.getDeclaredConstructors()) {
             boolean isPublic = Modifier.isPublic(made.getModifiers());
-            has.add(isPublic ? made.getName() + types(made.getParameterTypes()) : made.toString());
+            has.add(isPublic ? made.getName() + types(made.getParameterTypes()) : "not as due: " + made);
         }
         for (Method method : TYPE.getDeclaredMethods()) {
             if (!Modifier.isPrivate(method.getModifiers())) {
                 boolean isOpen = method.getModifiers() == Modifier.PUBLIC;
                 String form = method.getName() + types(method.getParameterTypes());
-                has.add(isOpen ? method.getReturnType().getName() + " " + form : method.toString());
+                has.add(isOpen ? method.getReturnType().getName() + " " + form : "not as due: " + method);
             }
         }
         return has;
